@@ -43,6 +43,9 @@ public final class AheadTest {
         // Of 200 YEARS: 199 is the last.
         c.rule("wed 1 if year=199").rule("wed 1 if year=200").due(0, "force", 1).due(199, "home").due(1, "force", 2)
                 .due(-2, "home").due(-2, "year").due(200, "home").due(-2, "force", 7);
+        c = new Checks().parish("parish 2 0;well 0 5 0;farm 0 0 9;farm 1 5 9;kin 0 1").rule("wed 1 if year=199")
+                .rule("wed 1 if year=200").due(-1, "force", 0).due(199, "dry", 0).due(1, "dry", 1).due(0, "force", 1)
+                .due(-2, "dry", 0).due(-2, "year").due(200, "dry", 0);
     }
 
     private static void heirs() {

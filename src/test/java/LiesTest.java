@@ -8,6 +8,7 @@ public final class LiesTest {
         seven();
         rings();
         asKinChange();
+        eachKinAfterEach();
         Checks.close("LiesTest");
     }
 
@@ -88,5 +89,28 @@ public final class LiesTest {
         Checks c = new Checks().parish("parish 3 0;kin 0 1").due(2, "lies", 30).due(0, "image", 0);
         c.parish("parish 3 0;kin 0 1;kin 0 2").due(6, "lies", 30).due(0, "back", 0).due(2, "lies", 30);
         c.parish("parish 4 0;kin 0 1").due(2, "lies", 30).due(-2, "fewest", 1243).due(1, "fewest", 2134);
+    }
+
+    private static void eachKinAfterEach() {
+        int[] swapped = {213, 321, 132};
+        for (int before = 0; before < 8; before++) {
+            for (int after = 0; after < 8; after++) {
+                Checks c = new Checks().parish(threeWith(before)).due(Integer.bitCount(before) + 1, "lies", 1);
+                c.parish(threeWith(after)).due(Integer.bitCount(after) + 1, "lies", 1);
+                for (int i = 0; i < 3; i++) {
+                    Checks.check("kin " + after + " behind " + before, c.call("fewest", swapped[i]) == 1 ? 1 : 0,
+                            after >> i & 1);
+                }
+            }
+        }
+    }
+
+    private static String threeWith(int kin) {
+        String[] told = {";kin 0 1", ";kin 0 2", ";kin 1 2"};
+        StringBuilder s = new StringBuilder("parish 3 0");
+        for (int i = 0; i < 3; i++) {
+            s.append((kin >> i & 1) != 0 ? told[i] : "");
+        }
+        return s.toString();
     }
 }

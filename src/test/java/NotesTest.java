@@ -59,6 +59,11 @@ public final class NotesTest {
         c.due(0, "note", -1, 0, 0).due(1, "note", 1, 0, 30).due(1, "ruled", 0).due(1, "ruled", 1);
         c.due(2, "note", 1, 0, 10).due(0, "ruled", 0).due(-2, "ruled", 1);
         c.due(-3, "ruled", 2).due(-3, "ruled", -1).due(-2, "look", 1, 0).due(-2, "look", 1, 1);
+        // Of six the last one alone.
+        new Checks().parish(TWO).rule("wed 0").rule("wed 0").rule("wed 0").rule("wed 0").rule("wed 0")
+                .rule("wed 1 if year=1").due(1, "note", 1, 0, 30).due(2, "note", 2, 0, 10).due(1, "ruled", 0)
+                .due(5, "ruled", 1).due(0, "look", 3, 0).due(1, "look", 3, 1).due(0, "note", -1, 0, 0).due(7, "ruled", 0)
+                .due(6, "look", 1, 1).due(5, "look", 2, 1);
         // The RULE IN FORCE has no part in it.
         c.due(0, "note", -1, 0, 0).due(-1, "force", 1).due(1, "note", 1, 0, 10).due(2, "ruled", 0).due(-1, "ruled", 1);
     }
@@ -87,6 +92,10 @@ public final class NotesTest {
         // What happens behind an IMAGE does not change it, and it can be gone back to again.
         c.due(-2, "year").due(0, "note", -1, 0, 0).due(2, "back", 0).due(2, "count", 4).due(1, "count", 9);
         c.due(2, "image", 1).due(-2, "year").due(3, "image", 0).due(2, "back", 1).due(3, "back", 0).due(-1, "back", 2);
+        // A NOTE comes back with its YEAR, FARM and TASTE.
+        c.due(0, "note", -1, 0, 0).due(1, "note", 1, 0, 10).due(2, "tastes", 1, 0).due(3, "image", 2)
+                .due(0, "note", -1, 0, 0).due(1, "note", 5, 2, 3).due(0, "tastes", 1, 0).due(3, "back", 2)
+                .due(2, "tastes", 1, 0).due(0, "tastes", 1, 1);
         // There was no PARISH in this one; the RULES stay.
         c.due(0, "back", 3).due(0, "count", 0).due(-1, "lie").due(-1, "year").due(2, "count", 2).due(-1, "count", 3)
                 .due(0, "count", 11).due(0, "count", 9).due(0, "count", 4).due(-1, "fewest", 123);

@@ -8,6 +8,7 @@ public final class TextsTest {
         parishes();
         parishFaults();
         clausesOfParish();
+        fullTapes();
         ruleNumbers();
         ruleFaults();
         deepTests();
@@ -128,6 +129,23 @@ public final class TextsTest {
         Checks.parishFault(forty + ";", forty.length() + 1, 0);
     }
 
+    /** As many signs, as long words and numbers as a TAPE can have. */
+    private static void fullTapes() {
+        for (String piece : new String[] {";", "<", "a", "9", "\u00ff", "<=", "1+"}) {
+            String full = piece.repeat(400).substring(0, 400);
+            Checks.parishFault(full, 0, 0);
+            Checks.ruleFault(full, 0, 0);
+        }
+        Checks.parishFault(" ".repeat(400), 400, 0);
+        Checks.ruleFault("wed" + " ".repeat(397), 400, 0);
+        Checks.ruleFault("wed " + "9".repeat(396), 4, 1);
+        Checks.ruleFault("wed 1 if " + "[".repeat(391), 19, 2);
+        Checks.ruleFault("wed " + "1+".repeat(198), 4 + 120, 3);
+        new Checks().tell("parish 2 0" + " ".repeat(390)).due(2, "parish");
+        new Checks().tell(" ".repeat(390) + "parish 2 0").due(2, "parish");
+        new Checks().tell(" ".repeat(395) + "wed 1").due(0, "rule");
+    }
+
     private static void ruleNumbers() {
         Checks c = new Checks();
         for (int i = 0; i < 6; i++) {
@@ -180,6 +198,10 @@ public final class TextsTest {
         Checks.ruleFault("wed 1 if 1<2 if 1<2", 13, 0);
         Checks.ruleFault("wed wells", 4, 0);
         Checks.ruleFault("wed homedry", 4, 0);
+        Checks.ruleFault("wedz 1", 0, 0);
+        Checks.ruleFault("zwed 1", 0, 0);
+        Checks.ruleFault("wed 1 if 1<=", 12, 0);
+        Checks.ruleFault("wed 1 if 1>", 11, 0);
     }
 
     private static void deepTests() {
