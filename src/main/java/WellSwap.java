@@ -967,7 +967,7 @@ public final class WellSwap {
             for (int other = 0; other < farms; other++) {
                 int due = much * water[has[other]];
                 left -= due / all;
-                if (due % all > lost || due % all == lost && other < farm) {
+                if (due % all > lost || (due % all == lost && other < farm)) {
                     ahead++;
                 }
             }
@@ -1663,7 +1663,7 @@ public final class WellSwap {
         }
 
         private int nextDraw() {
-            x = (int) (x * 1103515245L + 12345L & 2147483647L);
+            x = (int) ((x * 1103515245L + 12345L) & 2147483647L);
             return x / 65536;
         }
 
@@ -1759,7 +1759,7 @@ public final class WellSwap {
             int used = 0;
             for (int i = 0; i < farms; i++) {
                 int bit = 1 << numbers[i];
-                place = place * (farms - i) + numbers[i] - Integer.bitCount(used & bit - 1);
+                place = place * (farms - i) + numbers[i] - Integer.bitCount(used & (bit - 1));
                 used |= bit;
             }
             return place;
