@@ -1014,10 +1014,10 @@ public final class WellSwap {
             return last;
         }
 
-        /** Are the NOTES of the State's YEAR so in it? */
-        boolean areSo(State state) {
+        /** Are the NOTES of the n-th YEAR so, when it is as the State tells behind it? */
+        boolean areSo(int n, State behind) {
             for (int i = 0; i < size; i++) {
-                if (year[i] == state.year && state.taste[state.has[farm[i]]] != taste[i]) {
+                if (year[i] == n && behind.taste[behind.has[farm[i]]] != taste[i]) {
                     return false;
                 }
             }
@@ -1501,11 +1501,9 @@ public final class WellSwap {
         private boolean notesAreSo(World world, Rule rule) {
             int last = world.notes.lastYear();
             for (int n = 0; n <= last; n++) {
-                if (!world.notes.areSo(trial)) {
+                goOn(world.parish, rule, 1);
+                if (!world.notes.areSo(n, trial)) {
                     return false;
-                }
-                if (n < last) {
-                    years.pass(world.parish, trial, world.parish.draws, rule);
                 }
             }
             return true;
@@ -1617,13 +1615,14 @@ public final class WellSwap {
             return candidate > 0 && candidate <= rules.length ? rules[candidate - 1] : null;
         }
 
+        /** By each candidate, behind the n-th YEAR of all: YEAR 0 is the first one, so n + 1 have passed then. */
         void tasteAll(World world, Rule[] rules, int bits, int n) {
             for (int candidate = 0; candidate <= MOST_RULES; candidate++) {
                 if ((bits >> candidate & 1) == 0) {
                     continue;
                 }
                 trial.begin(world.parish);
-                goOn(world.parish, ruleOf(rules, candidate), n);
+                goOn(world.parish, ruleOf(rules, candidate), n + 1);
                 for (int farm = 0; farm < trial.farms; farm++) {
                     tasted[candidate * MOST_FARMS + farm] = trial.taste[trial.has[farm]];
                 }

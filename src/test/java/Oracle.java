@@ -832,10 +832,10 @@ final class Oracle {
         return what == 0 ? which : most;
     }
 
-    /** How it is behind the n-th YEAR of all by a RULE. */
+    /** How it is behind the n-th YEAR of all, the first of which is YEAR 0, by a RULE. */
     Now behind(int rule, int n) {
         Now t = begin(told);
-        for (int i = 0; i < n; i++) {
+        while (t.year <= n) {
             pass(t, told.draws, rule);
         }
         return t;
@@ -844,8 +844,8 @@ final class Oracle {
     private boolean allSo(Now start, int rule) {
         Now[] behind = new Now[61];
         for (int n = 0; n <= 60; n++) {
-            behind[n] = start.copy();
             pass(start, told.draws, rule);
+            behind[n] = start.copy();
         }
         for (Note note : notes) {
             Now t = behind[note.n];
@@ -974,11 +974,7 @@ final class Oracle {
         }
         List<Now> ends = new ArrayList<>();
         for (int r : so) {
-            Now t = begin(told);
-            for (int i = 0; i < n; i++) {
-                pass(t, told.draws, r);
-            }
-            ends.add(t);
+            ends.add(behind(r, n));
         }
         int best = -1;
         int fewest = 99;
