@@ -1501,7 +1501,7 @@ public final class WellSwap {
         private boolean notesAreSo(World world, Rule rule) {
             int last = world.notes.lastYear();
             for (int n = 0; n <= last; n++) {
-                goOn(world.parish, rule, 1);
+                years.pass(world.parish, trial, world.parish.draws, rule);
                 if (!world.notes.areSo(n, trial)) {
                     return false;
                 }

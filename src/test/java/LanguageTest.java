@@ -6,8 +6,11 @@ import java.lang.reflect.Modifier;
 import java.nio.charset.StandardCharsets;
 import java.nio.file.Files;
 import java.nio.file.Path;
+import java.util.ArrayList;
+import java.util.HashMap;
 import java.util.HashSet;
 import java.util.List;
+import java.util.Map;
 import java.util.Set;
 import java.util.TreeSet;
 import java.util.regex.Matcher;
@@ -98,6 +101,78 @@ public final class LanguageTest {
             due(calls.group() + " is allowed", library.contains(calls.group()));
         }
         longMethods(code);
+        deepCalls(code);
+    }
+
+    /** Calls stand at most eight deep, a method that is called again from within itself taken once. */
+    private static void deepCalls(String code) {
+        Map<String, String> bodies = bodies(code);
+        Map<String, List<String>> calls = new HashMap<>();
+        for (String method : bodies.keySet()) {
+            calls.put(method, called(method, bodies));
+        }
+        due("the methods of the source are found", bodies.keySet().containsAll(List.of("WellSwap.look", "Years.pass",
+                "Rule.combine")) && calls.get("WellSwap.look").contains("Foresight.tasteAll"));
+        for (String name : FACE) {
+            int deep = depth("WellSwap." + name, calls, new ArrayList<>());
+            due(name + " goes " + deep + " deep", deep <= 8);
+        }
+    }
+
+    /** By class and name what stands in each method. */
+    private static Map<String, String> bodies(String code) {
+        Map<String, String> bodies = new HashMap<>();
+        String[] lines = code.split("\n");
+        String in = "WellSwap";
+        String method = null;
+        for (String line : lines) {
+            Matcher nested = Pattern.compile("^    \\w[\\w ]*class (\\w+).*\\{").matcher(line);
+            if (nested.find()) {
+                in = nested.group(1);
+            }
+            String indent = in.equals("WellSwap") ? "    " : "        ";
+            Matcher head = Pattern.compile("^" + indent + "\\w[^=(]* (\\w+)\\([^=]*\\) \\{").matcher(line);
+            if (head.find()) {
+                method = in + "." + head.group(1);
+                bodies.put(method, "");
+            } else if (line.equals(indent + "}")) {
+                method = null;
+            } else if (method != null) {
+                bodies.merge(method, line + "\n", String::concat);
+            } else if (line.equals("    }")) {
+                in = "WellSwap";
+            }
+        }
+        return bodies;
+    }
+
+    /** A call with a name ahead of its point may be one of any other class that has such a method. */
+    private static List<String> called(String method, Map<String, String> bodies) {
+        String own = method.substring(0, method.indexOf('.') + 1);
+        List<String> found = new ArrayList<>();
+        Matcher call = Pattern.compile("(\\.?)\\b(\\w+)\\(").matcher(bodies.get(method));
+        while (call.find()) {
+            String name = "." + call.group(2);
+            for (String other : bodies.keySet()) {
+                boolean sameClass = other.startsWith(own);
+                if (other.endsWith(name) && sameClass == call.group(1).isEmpty()) {
+                    found.add(other);
+                }
+            }
+        }
+        return found;
+    }
+
+    private static int depth(String method, Map<String, List<String>> calls, List<String> open) {
+        int most = 0;
+        open.add(method);
+        for (String next : calls.get(method)) {
+            if (!open.contains(next)) {
+                most = Math.max(most, depth(next, calls, open));
+            }
+        }
+        open.remove(method);
+        return most + 1;
     }
 
     private static void longMethods(String code) {
