@@ -134,8 +134,12 @@ public final class BoundsOfAskedTest {
         // All KIN: a ring of all is farthest, and the least number has WELL 1 at FARM 0.
         new Checks().parish("parish 4 0;kin 0 1;kin 0 2;kin 0 3;kin 1 2;kin 1 3;kin 2 3").due(3, "farthest", 0)
                 .due(2341, "farthest", 1);
+        // A star of 7, from home and from another LIE; asked once more it is the same.
+        Checks c = new Checks().parish("parish 7 0;kin 0 1;kin 0 2;kin 0 3;kin 0 4;kin 0 5;kin 0 6").due(9, "farthest", 0)
+                .due(1325476, "farthest", 1).due(5, "wed", 0, 1).due(9, "farthest", 0).due(2315476, "farthest", 1)
+                .due(2315476, "farthest", 1);
         Checks.says("NONE for others, or without a PARISH.");
-        Checks c = Checks.rich();
+        c = Checks.rich();
         for (int what : NO_WHAT) {
             c.still(-1, "farthest", what).still(-1, "rings", what);
         }
@@ -168,6 +172,12 @@ public final class BoundsOfAskedTest {
                 .due(3, "rings", 1);
         new Checks().parish(TWO).due(0, "wed", 0, 1).due(1, "rings", 0).due(1, "rings", 1).due(2, "wed", 0, 1)
                 .due(0, "rings", 0);
+        // Rings that lie across one another: 0 3, 1 4, 2 5; and 0 2 4 6, 1 3 5.
+        new Checks().parish("parish 7 0;kin 0 3;kin 1 4;kin 2 5").due(5, "wed", 0, 3).due(1, "rings", 0).due(3, "wed", 1, 4)
+                .due(2, "rings", 0).due(1, "wed", 2, 5).due(3, "rings", 0).due(3, "rings", 1);
+        new Checks().parish("parish 7 0;kin 0 2;kin 2 4;kin 4 6;kin 1 3;kin 3 5").due(5, "wed", 0, 2).due(4, "wed", 2, 4)
+                .due(3, "wed", 4, 6).due(1, "rings", 0).due(3, "rings", 1).due(1, "wed", 1, 3).due(0, "wed", 3, 5)
+                .due(2, "rings", 0).due(5, "rings", 1);
     }
 
     // ---- how it goes on
@@ -211,6 +221,8 @@ public final class BoundsOfAskedTest {
         dryIn(200).still(-2, "dry", 0).due(-2, "year").due(200, "dry", 0);
         // WATER has gone in YEAR 0, but not by this one.
         new Checks().parish("parish 2 1;well 0 1 0;farm 0 5 0").due(-2, "dry", 0);
+        // What was DUG when it was asked before is no matter.
+        dryIn(0).due(0, "dry", 0).parish("parish 2 9;farm 0 1 0").due(-2, "dry", 0).due(-2, "dry", 1);
         Checks.says("DRY; .. NONE without that WELL.");
         Checks c = Checks.rich();
         for (int far : FAR) {
@@ -279,6 +291,18 @@ public final class BoundsOfAskedTest {
         depthBy("wed 1 if full<2", 1, 1);
         depthBy("wed full-29", 1, 30);
         depthBy("wed full-28", 2, 29);
+        // Behind YEAR 1, when RAIN has filled it up to that DEPTH again.
+        new Checks().parish("parish 2 9;kin 0 1;well 0 5 30;farm 0 5 2").rule("wed 1 if year=1 and full=30").due(-1, "force", 0)
+                .due(1, "note", 1, 0, 10).due(1, "depths", 0, 0).due(30, "depths", 0, 1);
+        Checks.says("all else as the text told it");
+        // By so much RAIN, DRAWS, HEIRS, DEPTH of the other one alone they WED in YEAR 1 and no more.
+        String rule = "wed 1 if year=1 and full=7 and low=6 and heirs=9 and sweet=30 and sour=0";
+        String told = "parish 2 3;kin 0 1;well 0 30 30;well 1 6 0;farm 0 5 4;farm 1 2 5";
+        new Checks().parish(told).rule(rule).due(-1, "force", 0).due(9, "dig", 1, 3).due(5, "birth", 0).due(1, "note", 1, 0, 10)
+                .due(1, "depths", 0, 0).due(9, "depths", 0, 1).due(0, "depths", 1, 0).due(-2, "depths", 1, 1);
+        new Checks().parish(told.replace("well 0 30", "well 0 9")).rule(rule).due(-1, "force", 0).due(1, "note", 1, 0, 10)
+                .due(2, "tastes", 0, 0).due(10, "tastes", 0, 1).due(1, "tastes", 1, 0).due(0, "tastes", 1, 1)
+                .due(1, "depths", 1, 0).due(6, "depths", 1, 1).due(1, "ruled", 0).due(0, "ruled", 1);
         Checks.says("DEPTHS what 0: how many, 1: the least (-2: there is none).");
         depthBy("wed 1 if full<1", 0, -2);
         depthBy("wed full-30", 0, -2);
@@ -328,6 +352,20 @@ public final class BoundsOfAskedTest {
         new Checks().parish("parish 2 0;well 0 4 0;well 1 1 0").due(3, "rests", 0, 1, 1, 1).due(1, "rests", 0, 1, 1, 0);
         new Checks().parish("parish 2 0;well 0 5 0;well 1 1 0").due(4, "rests", 0, 1, 1, 1);
         new Checks().parish("parish 2 0;well 0 6 0;well 1 1 0").due(5, "rests", 0, 1, 1, 1);
+        // Where both are dry, and stay so, all 36 are alike; the first is the least of all.
+        new Checks().parish("parish 2 0;well 0 1 0;well 1 1 0").due(-2, "year").due(36, "rests", 0, 1, 1, 0)
+                .due(0, "rests", 0, 1, 1, 1).due(0, "rests", 0, 1, 1, 2).due(36, "rests", 1, 0, 20, 0);
+        // What was asked before is no matter.
+        new Checks().parish("parish 2 9;well 0 30 0;well 1 30 0").due(5, "rests", 0, 1, 20, 1)
+                .parish("parish 2 0;well 0 1 0;well 1 1 0").due(1, "rests", 0, 1, 1, 0).due(0, "rests", 0, 1, 1, 1)
+                .due(0, "rests", 0, 1, 1, 2).parish("parish 2 9;well 0 30 0;well 1 30 0").due(1, "rests", 0, 1, 1, 0)
+                .due(5, "rests", 0, 1, 1, 1).due(5, "rests", 0, 1, 1, 2);
+        // The others draw as they do: if FARM 2 has a dry WELL, both WED in YEAR 1 unless WELL 1 is dry, too.
+        String third = "parish 3 0;kin 0 1;well 0 30 0;well 1 1 0;well 2 5 0;farm 2 ";
+        new Checks().parish(third + "5 0").rule("wed 1 if dry=1").due(-1, "force", 0).due(1, "rests", 0, 1, 2, 0)
+                .due(5, "rests", 0, 1, 2, 1).due(0, "rests", 0, 1, 2, 2);
+        new Checks().parish(third + "0 0").rule("wed 1 if dry=1").due(-1, "force", 0).due(1, "rests", 0, 1, 2, 0)
+                .due(5, "rests", 0, 1, 2, 1).due(5, "rests", 0, 1, 2, 2);
         Checks.says("RESTS what 0: how many, 1, 2: DRAWS of the first (-2: there is none). NONE without these (unlike).");
         Checks c = Checks.rich();
         for (int far : FAR) {
@@ -450,7 +488,21 @@ public final class BoundsOfAskedTest {
                     .due(1, "wed", 1, 2).due(0, "count", 4);
             c.due(1, "look", year, 0);
         }
+        Checks.says("the FARM by the TASTE of whose WELL these part best");
+        // Each of none and of the 6 is told apart from all others: by the FARM with which FARM 0 WEDS, or by nobody.
+        Checks all = new Checks().parish("parish 7 0;kin 0 1;kin 0 2;kin 0 3;kin 0 4;kin 0 5;kin 0 6;well 1 9 3;well 2 9 6;"
+                + "well 3 9 9;well 4 9 12;well 5 9 15;well 6 9 18;well 0 9 30");
+        for (int groom = 2; groom <= 6; groom++) {
+            all.rule("wed 1 if groom=" + groom);
+        }
+        all.rule("wed 0").due(7, "ruled", 0).due(0, "look", 0, 0).due(1, "look", 0, 1);
+        all.due(1, "note", 0, 0, 30).due(1, "ruled", 0).due(5, "ruled", 1).due(0, "look", 60, 0).due(1, "look", 60, 1);
         Checks.says("the most alike are fewest, of several the least; how many");
+        // None and five are alike, and the last one is not; then the first one is not.
+        all = new Checks().parish("parish 3 0;kin 0 2;well 2 9 30").rule("wed 1").rule("wed 1").rule("wed 1").rule("wed 1")
+                .rule("wed 1").rule("wed 0").due(0, "look", 0, 0).due(6, "look", 0, 1);
+        all = new Checks().parish("parish 3 0;kin 0 2;well 2 9 30").rule("wed 0").rule("wed 0").rule("wed 0").rule("wed 0")
+                .rule("wed 0").rule("wed 0").due(0, "look", 0, 0).due(6, "look", 0, 1);
         Checks c = new Checks().parish("parish 3 0;kin 1 2;well 1 9 30").rule("wed 0");
         c.due(1, "look", 0, 0).due(1, "look", 0, 1).due(1, "look", 60, 0).due(1, "look", 60, 1);
         new Checks().parish("parish 7 0").due(0, "look", 0, 0).due(1, "look", 0, 1);
@@ -606,6 +658,13 @@ public final class BoundsOfAskedTest {
         Checks.says("IMAGES 0 to 3: all but the TAPE and the RULES, as it is (the RULE IN FORCE, too)");
         c.due(0, "force", 1).due(7, "seed", 8).due(3, "note", 0, 0, 0).due(0, "end", 0).rule("wed 3").tell("abc");
         c.due(1, "back", 3).due(0, "count", 3).due(7, "count", 11).due(1, "count", 9).due(3, "count", 12).due(3, "count", 2);
+        // The PARISH and the NOTES, too.
+        Checks d = new Checks().parish(TWO + ";well 0 9 30;farm 0 3 7").due(1, "note", 0, 0, 10).due(0, "image", 0);
+        d.parish("parish 3 5;kin 1 2;well 0 4 4").due(1, "note", 7, 2, 3).due(0, "image", 1).due(0, "back", 0);
+        d.due(2, "count", 0).due(0, "count", 1).due(2, "farm", 0, 3).due(3, "farm", 0, 0).due(7, "farm", 0, 1)
+                .due(30, "well", 0, 1).due(1, "ruled", 0).due(3, "tastes", 0, 0).due(30, "tastes", 0, 1).due(2, "lies", 30);
+        d.due(0, "back", 1).due(3, "count", 0).due(5, "count", 1).due(4, "farm", 1, 3).due(4, "well", 0, 0)
+                .due(0, "ruled", 0).due(2, "lies", 30).due(-2, "fewest", 213).due(0, "back", 0).due(1, "ruled", 0);
         Checks.says("(these stay; nothing can be UNDONE then)");
         c.due(0, "count", 10).still(-1, "undo");
         // Gone back to once more, it is as it was again.

@@ -25,6 +25,9 @@ public final class BoundsOfTextsTest {
         clausesOfRule();
         digits();
         letters();
+        lettersOfWords();
+        signs();
+        wordsOfAll();
         towardsZero();
         byZero();
         sixtyFourBits();
@@ -101,6 +104,11 @@ public final class BoundsOfTextsTest {
         String kin = ";kin 0 1";
         Checks c = new Checks().parish("parish 2 0" + " ".repeat(382) + kin).due(2, "farm", 0, 3);
         c.parish(" ".repeat(390) + "parish 2 9").due(9, "count", 1);
+        // As many signs and words as there can be are bytes that can't stand there, the first of them first.
+        for (String sign : new String[] {";", "[", "<", "x ", "0 ", "\u00ff"}) {
+            Checks.parishFault(sign.repeat(400).substring(0, 400), 0, 0);
+            Checks.ruleFault(sign.repeat(400).substring(0, 400), 0, 0);
+        }
         Checks.says("RULES 0 to 5: texts likewise");
         new Checks().parish(TWO).rule("wed 0" + " ".repeat(393) + "+1").due(-1, "force", 0).due(1, "year");
     }
@@ -281,7 +289,17 @@ public final class BoundsOfTextsTest {
         Checks.rich().due(0, "end", 0).tell("wed 1" + "+1".repeat(60)).faulty("rule", 124, 3);
         Checks.rich().due(0, "end", 0).tell("wed 1" + ";wed 1".repeat(12)).faulty("rule", 72, 4);
         // The number is that of the next one without a FAULT.
-        Checks c = Checks.rich().due(0, "end", 0).tell("wed").due(-2 - 25, "rule").tell("wed 1").due(2, "rule");
+        Checks.rich().due(0, "end", 0).tell("wed").due(-2 - 25, "rule").tell("wed 1").due(2, "rule").due(3, "count", 2);
+        // Nothing of a text with a FAULT is in the next one.
+        Checks c = new Checks().parish(TWO).tell("wed 0;wed 0 if 1<2;x").due(-2 - (1 + 8 * 19), "rule");
+        c.tell("wed 1 if 1>2;wed 1").due(0, "rule").due(-1, "force", 0).due(1, "year");
+        c = new Checks().parish(TWO).tell("wed 1;wed 1;wed 1;x").due(-2 - (1 + 8 * 18), "rule");
+        c.tell("wed 1 if 1>2").due(0, "rule").due(-1, "force", 0).due(-2, "year");
+        c = new Checks().parish(TWO);
+        for (int i = 0; i < 12; i++) {
+            c.tell("wed 1" + "+1".repeat(58) + ";x").due(-2 - (1 + 8 * 122), "rule").due(0, "count", 2);
+        }
+        c.rule("wed 1 if " + "1+".repeat(56) + "1=57").due(-1, "force", 0).due(1, "year");
         // Without a PARISH, too.
         new Checks().tell("wed 1").due(0, "rule").due(1, "count", 2).tell("wed").faulty("rule", 3, 0);
     }
@@ -291,6 +309,7 @@ public final class BoundsOfTextsTest {
         String eleven = "wed 0 if 1>2;".repeat(11);
         holds(true, eleven + "wed 1");
         holds(false, eleven + "wed 0");
+        holds(false, eleven + "wed 1 if 1>2");
         Checks.says("4 one CLAUSE too many .. (at its first byte)");
         String twelve = eleven + "wed 0 if 1>2";
         Checks.ruleFault(twelve + ";wed 1", twelve.length() + 1, 4);
@@ -330,6 +349,9 @@ public final class BoundsOfTextsTest {
             Checks.ruleFault("wed" + word, 0, 0);
             Checks.ruleFault("wed " + word + "X", 4 + word.length(), 0);
             Checks.ruleFault("wed " + word.toUpperCase(), 4, 0);
+            Checks.ruleFault("wed " + word + "a", 4, 0);
+            Checks.ruleFault("wed " + word + "z", 4, 0);
+            Checks.ruleFault(word, 0, 0);
             Checks.ruleFault("wed 1+" + word + " " + word, 7 + word.length(), 0);
         }
         // The signs next to the small letters and to the digits are none.
@@ -342,6 +364,85 @@ public final class BoundsOfTextsTest {
         Checks.ruleFault(WEDS + "1<2 andnot 1<2", 13, 0);
         Checks.ruleFault(WEDS + "notnot 1<2", 9, 0);
         holds(true, "wed1if1<2or1<2and1<2");
+    }
+
+    /** The same word but for one letter can't stand where the word can. */
+    private static void eachLetter(String before, String word, String after, boolean ofParish) {
+        for (int i = 0; i < word.length(); i++) {
+            String other = before + word.substring(0, i) + "z" + word.substring(i + 1) + after;
+            if (ofParish) {
+                Checks.parishFault(other, before.length(), 0);
+            } else {
+                Checks.ruleFault(other, before.length(), 0);
+            }
+        }
+    }
+
+    private static void lettersOfWords() {
+        Checks.says("0 a byte or WORD that can't stand there");
+        eachLetter("", "parish", " 2 0", true);
+        eachLetter("parish 2 0;", "well", " 0 1 1", true);
+        eachLetter("parish 2 0;", "farm", " 0 1 1", true);
+        eachLetter("parish 2 0;", "kin", " 0 1", true);
+        eachLetter("", "wed", " 1", false);
+        eachLetter("wed 1 ", "if", " 1<2", false);
+        eachLetter(WEDS + "1<2 ", "or", " 1<2", false);
+        eachLetter(WEDS + "1<2 ", "and", " 1<2", false);
+        eachLetter(WEDS, "not", " 1<2", false);
+        for (String word : new String[] {"bride", "groom", "hers", "his", "sweet", "sour", "full", "low", "heirs", "home",
+            "dry", "year"}) {
+            eachLetter("wed ", word, "", false);
+        }
+        // What a SUM can have is no CLAUSE, nor a SIGN.
+        Checks.ruleFault("1", 0, 0);
+        Checks.ruleFault("wed 1;1", 6, 0);
+        Checks.ruleFault(WEDS + "1 2", 11, 0);
+        Checks.ruleFault(WEDS + "1 home", 11, 0);
+        Checks.ruleFault(WEDS + "1+1;wed 1", 12, 0);
+        Checks.ruleFault(WEDS + "[1<2;wed 1]", 13, 0);
+        Checks.ruleFault("wed bride well", 10, 0);
+    }
+
+    private static void signs() {
+        Checks.says("SUM SIGN SUM, SIGN one of < <= = >= >");
+        String[] signs = {"<", "<=", "=", ">=", ">"};
+        for (int i = 0; i < 5; i++) {
+            holds(i <= 1, WEDS + "6" + signs[i] + "7");
+            holds(i >= 1 && i <= 3, WEDS + "7" + signs[i] + "7");
+            holds(i >= 3, WEDS + "8" + signs[i] + "7");
+            holds(i > 1, WEDS + "not 6 " + signs[i] + " 7");
+            holds(i < 1 || i > 3, WEDS + "not 7 " + signs[i] + " 7");
+            holds(i < 3, WEDS + "not 8 " + signs[i] + " 7");
+        }
+        for (String other : new String[] {"!=", "<>", "==", "=<", "=>", "<<", ">>", "><"}) {
+            Checks.ruleFault(WEDS + "1" + other + "2", other.charAt(0) == '!' ? 10 : 11, 0);
+        }
+        Checks.says("TEST: PART { or PART }. PART: FACT { and FACT }.");
+        for (int facts = 0; facts < 32; facts++) {
+            String[] f = new String[5];
+            boolean[] is = new boolean[5];
+            for (int i = 0; i < 5; i++) {
+                is[i] = (facts >> i & 1) != 0;
+                f[i] = is[i] ? "1<2" : "1>2";
+            }
+            holds(is[0] || is[1] && is[2] || is[3], WEDS + f[0] + " or " + f[1] + " and " + f[2] + " or " + f[3]);
+            holds(is[0] || is[1] || is[2] || is[3], WEDS + f[0] + " or " + f[1] + " or " + f[2] + " or " + f[3]);
+            holds(is[0] && is[1] && is[2] || is[3] && is[4],
+                    WEDS + f[0] + " and " + f[1] + " and " + f[2] + " or " + f[3] + " and " + f[4]);
+            holds(!is[0] && (is[1] || is[2]), WEDS + "not " + f[0] + " and [" + f[1] + " or " + f[2] + "]");
+        }
+    }
+
+    /** Of these WELLS those at home and dry ones are counted in the YEAR that is to pass. */
+    private static void wordsOfAll() {
+        Checks.says("home (how many WELLS are at home), dry (how many have no WATER), year");
+        String parish = "parish 3 0;kin 0 1;kin 1 2;well 0 1 0;well 1 2 0;well 2 3 0;farm 0 1 9;farm 1 1 9;farm 2 1 9";
+        Checks c = new Checks().parish(parish).rule("wed 1 if dry=3 and home=3 and year=3;wed 2 if dry=3 and home<2 and year=4")
+                .rule("wed 1 if dry=0 and home=3 and year=0").rule("wed 1 if dry=1").rule("wed 1 if dry=2");
+        c.due(-1, "force", 0).due(-2, "year").due(-2, "year").due(-2, "year").due(1, "year").due(1, "year");
+        c.parish(parish).due(0, "force", 1).due(1, "year");
+        c.parish(parish).due(1, "force", 2).due(-2, "year").due(1, "year");
+        c.parish(parish).due(2, "force", 3).due(-2, "year").due(-2, "year").due(1, "year");
     }
 
     /** A TERM is below 0 only when it has gone round: 3 * 2^62 is -2^62. */

@@ -26,6 +26,7 @@ public final class BoundsOfYearsTest {
         lastTwenty();
         lastFirst();
         undoneAndOnAgain();
+        manyCalls();
         Checks.close("BoundsOfYearsTest");
     }
 
@@ -228,7 +229,8 @@ public final class BoundsOfYearsTest {
         Checks.says("A YEAR: 8 * the lesser and the greater FARM that WED in it (-2: none)");
         for (int one = 0; one < 7; one++) {
             for (int other = one + 1; other < 7; other++) {
-                new Checks().parish("parish 7 0;kin " + other + " " + one).due(8 * one + other, "year");
+                new Checks().parish("parish 7 0;kin " + other + " " + one).due(8 * one + other, "year")
+                        .due(one, "farm", other, 2).due(other, "farm", one, 2).due(1, "farm", one, 1).due(1, "farm", other, 1);
             }
         }
         Checks.says("NONE, and nothing happens, without a PARISH");
@@ -336,6 +338,19 @@ public final class BoundsOfYearsTest {
             c.still(-1, "birth", far);
         }
         new Checks().still(-1, "birth", 0);
+    }
+
+    private static void manyCalls() {
+        Checks.says("An object is used for at most 512 calls after it has been made");
+        // "parish 2 9" comes by three calls; the 512th one, behind 508 YEARS, answers as the first ones do.
+        WellSwap x = new WellSwap();
+        x.feed(0x70617269, 0x73682032, 0x20392020, 0x20202020, 0x20202020);
+        x.end(10);
+        x.parish();
+        for (int year = 0; year < 508; year++) {
+            Checks.check("year " + year, x.year(), -2);
+        }
+        Checks.check("the 512th call", x.count(4), 508);
     }
 
     // ---- what is UNDONE
