@@ -72,6 +72,14 @@ public final class AheadTest {
                 .due(-1, "rests", 0, 1, 0, 0).due(-1, "rests", 0, 1, 21, 0).due(-1, "rests", 0, 1, 1, 3)
                 .due(-1, "rests", 0, 1, 1, -1);
         c.due(5, "farm", 0, 0).due(0, "count", 4).due(5, "count", 6);
+        /*
+         * They WED in both YEARS, so each has the other one's WELL first and its own then. By 3 and 0 the first has 3,
+         * and 2 less 3; by 4 it would have 4 less 3, and 2 less 3. The second has 0; by 1 it would have 1, and 1 less 3.
+         * By 1 and 0 the first has as much, but the second would have 1 and 1 by 1.
+         */
+        c = new Checks().parish("parish 2 0;well 0 2 0;well 1 4 0;kin 0 1");
+        c.due(1, "rests", 0, 1, 2, 0).due(3, "rests", 0, 1, 2, 1).due(0, "rests", 0, 1, 2, 2);
+        c.due(1, "rests", 1, 0, 2, 0).due(0, "rests", 1, 0, 2, 1).due(3, "rests", 1, 0, 2, 2);
         // By 0 of the second the first is best with 3, so the second with 3, so the first with 5, so the second with 0.
         c = new Checks().parish("parish 2 0;well 0 7 0;well 1 2 0;kin 0 1").rule("wed 1 if low=0").due(-1, "force", 0);
         c.due(0, "rests", 0, 1, 2, 0).due(-2, "rests", 0, 1, 2, 1).due(-2, "rests", 0, 1, 2, 2);
@@ -85,6 +93,9 @@ public final class AheadTest {
         c.due(2667, "pence", 9999, 0).due(1333, "pence", 9999, 1).due(5999, "pence", 9999, 2);
         // By the WELLS they have.
         c.due(1, "wed", 0, 1).due(1, "pence", 10, 0).due(3, "pence", 10, 1);
+        // By WATER, not by DEPTH: of 4, 5 and 6 it is 2 and 10, 3 and 5, 4 and none.
+        new Checks().parish("parish 3 0;farm 0 5 2;farm 1 4 2;farm 2 3 2").due(-2, "year").due(15, "count", 6)
+                .due(3, "pence", 10, 0).due(3, "pence", 10, 1).due(4, "pence", 10, 2);
         c = new Checks().parish("parish 3 0;well 0 1 0;well 1 1 0;well 2 1 0");
         c.due(4, "pence", 10, 0).due(3, "pence", 10, 1).due(3, "pence", 10, 2).due(4, "pence", 11, 1).due(3, "pence", 11, 2);
         c.due(-2, "year").due(0, "count", 6).due(0, "pence", 10, 0).due(-1, "pence", 10, 3);
@@ -107,6 +118,12 @@ public final class AheadTest {
         c.due(-1, "droughts", 0, 1, 1, 0).due(-1, "droughts", 11, 1, 1, 0).due(-1, "droughts", 1, 0, 1, 0)
                 .due(-1, "droughts", 1, 61, 1, 0).due(-1, "droughts", 1, 1, -1, 0).due(-1, "droughts", 1, 1, 101, 0)
                 .due(-1, "droughts", 1, 1, 1, 2).due(-1, "droughts", 1, 1, 1, -1);
+        // Ahead of the YEAR the WELL has no WATER, behind it what has rained; its DEPTH is as it was.
+        new Checks().parish("parish 2 3;well 0 9 0;well 1 8 0;farm 0 0 0;farm 1 0 0").due(3 + 8, "droughts", 1, 1, 1, 1)
+                .due(9 + 8, "droughts", 1, 3, 1, 1).due(9, "well", 0, 0);
+        // The RULE IN FORCE sees the drought of its YEAR.
+        new Checks().parish("parish 2 0;farm 0 0 1;farm 1 0 1;kin 0 1").rule("wed 1 if dry=1 and full=0 and low=9")
+                .due(-1, "force", 0).due(2, "droughts", 1, 1, 0, 0).due(0, "droughts", 1, 1, 1, 0);
         // By the WELL that the FARM has, not by the one that is at home there.
         c = new Checks().parish("parish 2 0;well 0 9 0;well 1 8 0;farm 0 0 1;farm 1 0 1;kin 0 1").due(0, "wed", 0, 1);
         c.due(9, "droughts", 1, 1, 1, 1).due(0, "droughts", 10, 3, 50, 0);

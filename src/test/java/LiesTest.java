@@ -36,7 +36,8 @@ public final class LiesTest {
 
     private static void otherLies() {
         Checks c = new Checks().parish("parish 3 1;kin 1 2;kin 0 1");
-        int[] wrong = {0, 1, 12, 122, 124, 120, 23, 1230, 1234, -123, Integer.MAX_VALUE, Integer.MIN_VALUE, 333};
+        int[] wrong = {0, 1, 12, 122, 121, 211, 124, 125, 129, 192, 812, 120, 103, 23, 1230, 1234, -123,
+            Integer.MAX_VALUE, Integer.MIN_VALUE, 333};
         for (int lie : wrong) {
             c.due(-1, "fewest", lie).due(-1, "step", lie, 0, 0);
         }
@@ -54,6 +55,9 @@ public final class LiesTest {
         c.due(0, "step", 3412, 0, 0).due(2, "step", 3412, 0, 1).due(1, "step", 3412, 1, 0).due(3, "step", 3412, 1, 1);
         c.due(4, "lies", 30).due(3, "lies", 1).due(2, "farthest", 0).due(3412, "farthest", 1);
         c.due(-2, "comes", 0, 1).due(-2, "comes", 3, 0).due(1, "comes", 3, 1);
+        // A WELL comes further from each FARM that it has come to, not from the last one alone.
+        new Checks().parish("parish 4 0;kin 0 1;kin 0 2;kin 1 3").due(2, "comes", 0, 3).due(3, "comes", 2, 3)
+                .due(3, "comes", 3, 2).due(2, "comes", 1, 2).due(1, "comes", 3, 1);
         c = new Checks().parish("parish 2 0").due(-2, "fewest", 21).due(0, "fewest", 12).due(1, "lies", 30)
                 .due(0, "farthest", 0).due(12, "farthest", 1).due(-2, "comes", 0, 1).due(0, "comes", 1, 1);
     }
@@ -89,6 +93,10 @@ public final class LiesTest {
         Checks c = new Checks().parish("parish 3 0;kin 0 1").due(2, "lies", 30).due(0, "image", 0);
         c.parish("parish 3 0;kin 0 1;kin 0 2").due(6, "lies", 30).due(0, "back", 0).due(2, "lies", 30);
         c.parish("parish 4 0;kin 0 1").due(2, "lies", 30).due(-2, "fewest", 1243).due(1, "fewest", 2134);
+        // Nor may more FARMS leave anything behind for fewer ones.
+        c.parish("parish 7 0;kin 0 1;kin 1 2;kin 2 3;kin 3 4;kin 4 5;kin 5 6").due(5040, "lies", 30);
+        c.parish("parish 3 0;kin 0 1;kin 1 2").due(3, "lies", 1).due(5, "lies", 2).due(6, "lies", 30)
+                .due(3, "farthest", 0).due(321, "farthest", 1).due(3, "fewest", 321).due(2, "fewest", 231);
     }
 
     private static void eachKinAfterEach() {

@@ -23,16 +23,46 @@ public final class OracleTest {
     public static void main(String[] args) {
         int runs = args.length > 0 ? Integer.parseInt(args[0]) : 300;
         long from = args.length > 1 ? Long.parseLong(args[1]) : 0;
-        for (long seed = from; seed < from + runs; seed++) {
-            if (!new OracleTest(seed).run(seed)) {
-                break;
-            }
+        boolean alike = true;
+        for (long seed = from; alike && seed < from + runs; seed++) {
+            alike = new OracleTest(seed).run(seed);
+        }
+        for (long seed = from; alike && seed < from + runs / 15; seed++) {
+            alike = together(seed);
         }
         Checks.close("OracleTest");
     }
 
     private boolean run(long seed) {
         int many = 120 + random.nextInt(390);
+        begin();
+        while (calls.size() < many) {
+            if (!act()) {
+                return tellWrong(seed);
+            }
+        }
+        return true;
+    }
+
+    /** Four objects by turns, each for the 512 calls that the document leaves it: none sees what another one was told. */
+    private static boolean together(long seed) {
+        OracleTest[] all = new OracleTest[4];
+        for (int i = 0; i < all.length; i++) {
+            all[i] = new OracleTest(31 * seed + i);
+            all[i].begin();
+        }
+        // Some acts make no call, so there are more turns than calls.
+        for (int turn = 0; turn < 2 * 512; turn++) {
+            for (OracleTest one : all) {
+                if (one.calls.size() < 512 && !one.act()) {
+                    return one.tellWrong(seed);
+                }
+            }
+        }
+        return true;
+    }
+
+    private void begin() {
         if (random.nextInt(8) > 0) {
             tell(parishText(true));
             same("parish");
@@ -42,16 +72,14 @@ public final class OracleTest {
             same("rule");
         }
         same("force", among(-1, 2));
-        while (calls.size() < many) {
-            if (!act()) {
-                System.out.println("seed " + seed + ", the last calls:");
-                for (int i = Math.max(0, calls.size() - 60); i < calls.size(); i++) {
-                    System.out.println("  " + calls.get(i));
-                }
-                return false;
-            }
+    }
+
+    private boolean tellWrong(long seed) {
+        System.out.println("seed " + seed + ", the last calls:");
+        for (int i = Math.max(0, calls.size() - 60); i < calls.size(); i++) {
+            System.out.println("  " + calls.get(i));
         }
-        return true;
+        return false;
     }
 
     private boolean same(String name, int... args) {

@@ -131,7 +131,7 @@ public final class TextsTest {
 
     /** As many signs, as long words and numbers as a TAPE can have. */
     private static void fullTapes() {
-        for (String piece : new String[] {";", "<", "a", "9", "\u00ff", "<=", "1+"}) {
+        for (String piece : new String[] {";", "<", "a", "9", "\u00ff", "<=", "1+", "+1"}) {
             String full = piece.repeat(400).substring(0, 400);
             Checks.parishFault(full, 0, 0);
             Checks.ruleFault(full, 0, 0);
@@ -202,6 +202,13 @@ public final class TextsTest {
         Checks.ruleFault("zwed 1", 0, 0);
         Checks.ruleFault("wed 1 if 1<=", 12, 0);
         Checks.ruleFault("wed 1 if 1>", 11, 0);
+        // No word can stand where a SIGN is due, nor behind a SUM but if.
+        for (String word : new String[] {"parish", "well", "farm", "kin", "wed", "if", "or", "and", "not", "bride", "year"}) {
+            Checks.ruleFault("wed 1 if 1 " + word + " 2", 11, 0);
+            if (!word.equals("if")) {
+                Checks.ruleFault("wed 1 " + word + " 2", 6, 0);
+            }
+        }
     }
 
     private static void deepTests() {
@@ -313,6 +320,16 @@ public final class TextsTest {
         holds(true, "wed 1 if not 1<2 or 1<2");
         holds(false, "wed 1 if not [1<2 or 1<2]");
         holds(true, "wed 1 if 1>2 or 1>2 or 1<2 and 1<2 or 1>2");
+        // Whatever the SIGNS are of which two FACTS are made.
+        String[] so = {"1<2", "1<=2", "2<=2", "2=2", "2>=2", "2>=1", "2>1"};
+        for (String one : so) {
+            for (String other : so) {
+                holds(true, "wed 1 if " + one + " and " + other);
+                holds(true, "wed 1 if " + one + " or " + other);
+                holds(false, "wed 1 if not " + one + " or not " + other);
+                holds(false, "wed 1 if " + one + " and not " + other);
+            }
+        }
     }
 
     private static void firstClauseThatHolds() {
